@@ -535,11 +535,17 @@ public final class NoTwoInOneRoom {
         int room = NONE;
         for (int g = 0; g < house.count; g++) {
             for (int r = 0; r < house.rooms; r++) {
-                int minutes = findSoonestWithout(g, r, those, soonest);
-                if (minutes != NONE) {
-                    soonest = minutes;
-                    group = g;
-                    room = r;
+                int stay = house.stays[g][r];
+                // where it stays for 0 MINUTES anyway, leaving out betters nothing
+                if (stay > 0) {
+                    house.stays[g][r] = 0;
+                    int minutes = findSoonest(those, soonest == NONE ? LONGEST_DAY : soonest - 1);
+                    house.stays[g][r] = stay;
+                    if (minutes != NONE) {
+                        soonest = minutes;
+                        group = g;
+                        room = r;
+                    }
                 }
             }
         }
@@ -790,6 +796,7 @@ public final class NoTwoInOneRoom {
         return 0;
     }
 
+    /** As best(), but by those ORDERS alone by which all are THROUGH in so many MINUTES; NONE: there is no such. */
     private int findSoonest(int those, int limit) {
         int soonest = NONE;
         int least = 0;
@@ -808,17 +815,6 @@ public final class NoTwoInOneRoom {
             from = orders.turnToNext();
         }
         return soonest;
-    }
-
-    private int findSoonestWithout(int group, int room, int those, int soonest) {
-        int stay = house.stays[group][room];
-        if (stay == 0) {
-            return NONE;
-        }
-        house.stays[group][room] = 0;
-        int minutes = findSoonest(those, soonest == NONE ? LONGEST_DAY : soonest - 1);
-        house.stays[group][room] = stay;
-        return minutes;
     }
 
     private int smoothMinutes(Orders order) {
@@ -1096,18 +1092,15 @@ public final class NoTwoInOneRoom {
         }
 
         private boolean readSize(int group) {
-            int first = p;
             int size = readNumber();
-            house.size[group] = size;
             if (size == NONE) {
                 return false;
             }
-            // a lone 0 that the text's limit cuts off could have gone on: the limit is the fault then
-            boolean couldGoOn = p == first + 1 && text.at(p) == CUT;
-            if ((size < 1 || size > MOST_SIZE) && !couldGoOn) {
+            if (size < 1 || size > MOST_SIZE) {
                 p--;
                 return false;
             }
+            house.size[group] = size;
             return true;
         }
 

@@ -204,6 +204,7 @@ public final class PlainModelTest {
             due("palace", x.palace(), m.palace());
             type(linesText(1 + some(6)));
             due("groups", x.groups(), m.groups());
+            if (some(2) == 0) fill();
         }
         for (int n = 0; n < 60 && !failed; n++) {
             if (some(5) == 0) act();
@@ -213,9 +214,30 @@ public final class PlainModelTest {
         }
     }
 
+    /** Some set off, so that ROOMS are full. */
+    private void fill() {
+        for (int n = 0; n < 8 && !failed; n++) {
+            int g = someGroup();
+            due("off " + g, x.off(g), m.off(g));
+            int k = some(4);
+            due("minutes " + k, x.minutes(k), m.minutes(k));
+        }
+    }
+
+    private void palaceAnew() {
+        int n = m.groups.size();
+        type(spoil(palaceText()));
+        due("palace", x.palace(), m.palace());
+        if (n > 0 && m.groups.isEmpty() && some(2) == 0) {
+            type(linesText(n));
+            due("groups", x.groups(), m.groups());
+            due("again", x.again(0), m.again(0));
+        }
+    }
+
     private void tellTexts() {
         switch (some(14)) {
-            case 0: if (some(6) == 0) { type(spoil(palaceText())); due("palace", x.palace(), m.palace()); } break;
+            case 0: if (some(6) == 0) palaceAnew(); break;
             case 1: case 2: type(shortened(spoil(linesText(1 + some(some(3) == 0 ? 7 : 2))))); due("groups", x.groups(), m.groups()); break;
             case 3: case 4: type(shortened(spoil(expression(0)))); due("rule", x.rule(), m.rule()); break;
             case 5: type(""); due("rule", x.rule(), m.rule()); break;
@@ -254,6 +276,7 @@ public final class PlainModelTest {
         int g = someGroup();
         int h = someGroup();
         int b = somebody();
+        if (some(60) == 0) fill();
         switch (some(22)) {
             case 0: { int n = some(9) == 0 ? some(406) - 2 : some(40); due("where " + g + " " + n, x.where(g, n), m.where(g, n)); break; }
             case 1: due("stuck", x.stuck(), m.stuck()); break;

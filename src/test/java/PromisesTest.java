@@ -296,6 +296,9 @@ public final class PromisesTest {
         dueGroups(six + "1v10>111111x", -77);
         dueGroups(six + "1v10>11111x1", -76);
         dueGroups(six + "111v10>11111", -68);
+        dueGroups(times("1v1>111111;", 6) + "1v1", -67);
+        dueGroups(six + "1v0", -68);
+        dueGroups(six + "1v0>111111;x", -68);
         due("nothing of it came", x.count(1), 0);
     }
 
@@ -324,6 +327,9 @@ public final class PromisesTest {
         dueStays("s<4", 1, 0);
         dueStays("s>4", 0, 1);
         dueStays("s=5", 0, 1);
+        dueStays("s<5", 1, 0);
+        dueStays("s>5", 0, 0);
+        dueStays("123/10", 12, 12);
         dueStays("s+1>4-1", 0, 1);
         dueStays("(s>4)*9+1", 1, 10);
         dueStays("(1<2)<(2<1)", 0, 0);
@@ -489,6 +495,9 @@ public final class PromisesTest {
         due("no such room", x.sheet(2, 0, -1, 1, 1), -1);
         due("no such room", x.sheet(-1, 3, 1, 1, 1), -1);
         due("nothing changed", room(0, 2), 6);
+        due("missing", x.sheet(0, 3, 2, 1, 1), -3);
+        due("all are 0", room(0, 2), 0);
+        due("again", x.sheet(0, 2, 3, 1, 1), 6);
         due("missing", x.sheet(0, 3, -1, 1, 1), -3);
         due("all are 0", room(0, 2), 0);
         fresh("r", "");
@@ -899,6 +908,7 @@ public final class PromisesTest {
         fresh("rr", "0v9>32;0w5>14;2v8<22");
         due("6", x.many(3, 6), 0);
         dueRow(0);
+        due("1", x.many(3, 1), 0);
         due("7", x.many(3, 7), 1);
         due("8", x.many(3, 8), 1);
         due("9", x.many(3, 9), 2);
@@ -1039,16 +1049,28 @@ public final class PromisesTest {
         x.off(0);
         x.off(1);
         due("stuck", x.late(0, 1), -2);
-        // stuck only then: the first gets out of the way in time, as it is
-        fresh("rcr", "0v1>115;0v1<111;0v1<111");
+        // they can go by each other in the corridor alone: a has to be in ROOM 1 by the time b would be
+        fresh("rrcr", "0v1>1111;0v1<1111");
         x.off(0);
         x.off(1);
-        due("by each other in the corridor", x.late(0, 1), 1);
-        fresh("crc", "0v1>111;0v1<111");
+        due("in time", x.late(0, 1), 1);
+        dueRow(3, 2);
+        due("stuck then", x.late(0, 2), -2);
+        due("30", x.late(0, 30), -2);
+        fresh("rrcr", "0v1>3111;0v1<1111");
         x.off(0);
         x.off(1);
-        due("later is the one alone", x.late(1, 5), 4);
-        dueRow(2, 4);
+        due("stuck as it is, not then", x.late(1, 5), -2);
+        // b goes first through the room, till it is so late that a does
+        fresh("crc", "0v1>511;0v1<133");
+        x.off(0);
+        x.off(1);
+        due("both are later", x.late(1, 1), 1);
+        dueRow(3, 2);
+        due("one is later, one sooner", x.late(1, 3), 2);
+        dueRow(2, 3);
+        due("30", x.late(1, 30), 29);
+        dueRow(2, 30);
     }
 
     private static void slack() {
@@ -1069,6 +1091,19 @@ public final class PromisesTest {
         x.minute();
         x.off(1);
         due("till the one behind it has gone through its own", x.slack(0), 5);
+        fresh("rr", "0v1>51;0v1>14");
+        x.off(1);
+        x.minute();
+        x.off(0);
+        due("one", x.slack(1), 1);
+        fresh("rrcr", "0v1>1111;0v1<1111");
+        x.off(0);
+        x.off(1);
+        due("the other one later, or never", x.slack(0), 0);
+        fresh("crc", "0v1>511;0v1<133");
+        x.off(0);
+        x.off(1);
+        due("the greatest, though lesser ones are none such", x.slack(1), 30);
         fresh("rr", "0v1>11;0v1<11");
         x.off(0);
         x.off(1);
@@ -1094,9 +1129,13 @@ public final class PromisesTest {
         due("none such", x.dies(2, 5, 5), -1);
         due("none such", x.dies(-1, 5, 5), -1);
         dueRow(7);
+        due("1", x.dies(0, 4, 1), 0);
         due("20 at most", x.dies(1, 1, 60), 20);
         dueRow(40);
         due("60", x.dies(1, 60, 60), 0);
+        fresh("c", "0v1>9");
+        due("no room at all", x.dies(0, 1, 3), 2);
+        dueRow(1);
     }
 
     private static void loss() {
@@ -1341,6 +1380,21 @@ public final class PromisesTest {
         due("kept anew", x.again(0), true);
         duePalace("rr", 2);
         due("the palace is anew", x.again(0), false);
+        fresh("rr", "0v1>99;0v1>11");
+        x.off(0);
+        x.minutes(9);
+        x.off(1);
+        x.minutes(3);
+        x.keep(0);
+        x.keep(1);
+        duePalace("rr", 2);
+        dueGroups("0v1>99;0v1>11", 2);
+        due("as many groups, but none of those", x.again(0), false);
+        due("as many groups, but none of those", x.again(1), false);
+        due("waited", group(1, 6), 0);
+        due("left", group(0, 5), 0);
+        due("through", group(0, 7), -1);
+        due("all rooms are free", x.off(1), 1);
     }
 
     private static void count() {
