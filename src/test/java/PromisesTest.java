@@ -1,12 +1,5 @@
-import java.util.NoSuchElementException;
-
 /** Each promise of the document by itself: ordinary calls, the edges that it names, wrong inputs; answers reckoned by hand. */
-public final class PromisesTest {
-    private static final int THROWS = Integer.MIN_VALUE + 7;
-    private static int wrong = 0;
-    private static int promise = 0;
-    private static NoTwoInOneRoom x;
-
+public final class PromisesTest extends Asking {
     public static void main(String[] args) {
         newObject();
         sign();
@@ -56,105 +49,7 @@ public final class PromisesTest {
         count();
         row();
         wildArguments();
-        System.out.println(wrong == 0 ? "all promises are kept" : wrong + " answers break a promise");
-        if (wrong != 0) System.exit(1);
-    }
-
-    // ---- how it is asked
-
-    private static void due(String call, int got, int want) {
-        if (got != want) {
-            wrong++;
-            System.out.println("promise " + promise + ": " + call + " answered " + got + ", due is " + want);
-        }
-    }
-
-    private static void due(String call, boolean got, boolean want) {
-        due(call, got ? 1 : 0, want ? 1 : 0);
-    }
-
-    private static void text(String signs) {
-        x.end(0);
-        for (int p = 0; p < signs.length(); p += 4) {
-            int v = 0;
-            for (int k = 0; k < 4; k++) v = v << 8 | (p + k < signs.length() ? signs.charAt(p + k) : 0);
-            x.sign(v);
-        }
-        due("end of " + signs, x.end(signs.length()), true);
-    }
-
-    private static void fresh(String palace, String groups) {
-        x = new NoTwoInOneRoom();
-        text(palace);
-        due("palace " + palace, x.palace(), palace.length());
-        text(groups);
-        due("groups " + groups, x.groups(), groups.isEmpty() ? 0 : groups.split(";").length);
-    }
-
-    private static void duePalace(String signs, int want) {
-        text(signs);
-        due("palace " + signs, x.palace(), want);
-        due("text is emptied", x.count(10), 0);
-    }
-
-    private static void dueGroups(String signs, int want) {
-        text(signs);
-        due("groups " + signs, x.groups(), want);
-        due("text is emptied", x.count(10), 0);
-    }
-
-    private static void dueRule(String signs, int want) {
-        text(signs);
-        due("rule " + signs, x.rule(), want);
-        due("text is emptied", x.count(10), 0);
-    }
-
-    private static void dueDay(String signs, int want) {
-        text(signs);
-        due("day " + signs, x.day(), want);
-        due("text is emptied", x.count(10), 0);
-    }
-
-    private static void dueOrder(String signs, int want, int... row) {
-        text(signs);
-        due("order " + signs, x.order(), want);
-        due("text is emptied", x.count(10), 0);
-        if (row.length > 0) dueRow(row);
-    }
-
-    private static void dueRow(int... numbers) {
-        due("numbers of the row", x.count(9), numbers.length);
-        for (int i = 0; i < numbers.length; i++) due("row " + i, row(i), numbers[i]);
-    }
-
-    private static int group(int g, int what) {
-        try {
-            return x.group(g, what);
-        } catch (NoSuchElementException e) {
-            return THROWS;
-        }
-    }
-
-    private static int room(int r, int what) {
-        try {
-            return x.room(r, what);
-        } catch (NoSuchElementException e) {
-            return THROWS;
-        }
-    }
-
-    private static int row(int i) {
-        try {
-            return x.row(i);
-        } catch (NoSuchElementException e) {
-            return THROWS;
-        }
-    }
-
-    private static String times(String s, int n) {
-        StringBuilder b = new StringBuilder();
-        for (int k = 0; k < n; k++) b.append(s);
-        return b.toString();
+        finish("all promises are kept");
     }
 
     // ---- the promises
