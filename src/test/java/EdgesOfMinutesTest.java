@@ -30,6 +30,7 @@ public final class EdgesOfMinutesTest extends Asking {
         undoWhatWasDone();
         undoForgotten();
         undoBringsBack();
+        sixthGroup();
         where();
         stuck();
         stuckNearly400();
@@ -672,6 +673,36 @@ public final class EdgesOfMinutesTest extends Asking {
         x.undo();
         x.undo();
         due("the first room is free again", x.off(2), 2);
+    }
+
+    /** The sixth GROUP is as the others: it waits, gets THROUGH, is undone and kept. */
+    private static void sixthGroup() {
+        fresh("rr", times("0v1>13;", 5) + "0v1>13");
+        x.off(4);
+        x.minute();
+        x.off(5);
+        due("minutes", x.minutes(3), 1);
+        dueRow(16, 2);
+        due("waited", group(5, 6), 2);
+        due("waited", x.count(6), 2);
+        x.keep(1);
+        due("minutes", x.minutes(3), 1);
+        dueRow(32, 0);
+        due("through", group(5, 7), 6);
+        x.undo();
+        due("not through", group(5, 7), -1);
+        due("where", group(5, 4), 1);
+        due("left", group(5, 5), 3);
+        x.minutes(9);
+        due("again", x.again(1), true);
+        due("not through", group(5, 7), -1);
+        due("waited", group(5, 6), 2);
+        x.minutes(2);
+        x.keep(0);
+        x.minutes(1);
+        due("through", group(5, 7), 6);
+        due("again", x.again(0), true);
+        due("left", group(5, 5), 1);
     }
 
     // ---- 19, 20

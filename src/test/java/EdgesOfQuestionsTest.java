@@ -5,6 +5,7 @@ public final class EdgesOfQuestionsTest extends Asking {
 
     public static void main(String[] args) {
         ordersOf400();
+        lastOrder();
         best();
         calm();
         many();
@@ -30,6 +31,7 @@ public final class EdgesOfQuestionsTest extends Asking {
         heardMinutes();
         heardIn300();
         fitsNumbers();
+        fitsAsked();
         began();
         seasonNumbers();
         seasonDraws();
@@ -86,6 +88,36 @@ public final class EdgesOfQuestionsTest extends Asking {
         dueRow(0, 5);
         x.minute();
         due("from then on", x.best(63), 400);
+    }
+
+    /** The last of 720 ORDERS is the only one that does. */
+    private static void lastOrder() {
+        // each comes just when the one ahead of it is THROUGH
+        fresh("r", "45v1>9;36w1>9;27x1>9;18y1>9;9z1>9;0v1>9");
+        promise = 22;
+        due("best", x.best(63), 54);
+        dueRow(5, 4, 3, 2, 1, 0);
+        promise = 23;
+        due("calm", x.calm(63), 0);
+        dueRow(54, 5, 4, 3, 2, 1, 0);
+        promise = 24;
+        due("one in 54", x.many(63, 54), 1);
+        due("none in 53", x.many(63, 53), 0);
+        // heard: v, z, y, x, w, v, each in its time; the first v is short, so it is not a
+        fresh("r", "0v1>9;0w1>2;0x1>2;0y1>2;0z1>2;0v1>2");
+        int[] tongue = {0, 4, 3, 2, 1, 0};
+        for (int k = 0; k < 6; k++) x.heard(0, 2 * k + 1, tongue[k]);
+        promise = 37;
+        due("fits", x.fits(63), 1);
+        dueRow(5, 4, 3, 2, 1, 0);
+        promise = 38;
+        due("began", x.began(63), 32);
+        dueRow(1);
+        promise = 26;
+        // each stays as long in the second ROOM as the next in the first
+        fresh("rr", "0v1>60;0v1>56;0v1>45;0v1>34;0v1>23;0v1>12");
+        due("smooth", x.smooth(63), 21);
+        dueRow(5, 4, 3, 2, 1, 0, 0, 1, 3, 6, 10, 15);
     }
 
     private static void best() {
@@ -287,6 +319,11 @@ public final class EdgesOfQuestionsTest extends Asking {
         x.off(5);
         due("those in ROOMS as well", x.smooth(32), 9);
         dueRow(5, 0);
+        fresh("rc", "0v1<00;0v1<01");
+        due("no time at all", x.smooth(1), 0);
+        dueRow(0, 0);
+        due("from behind", x.smooth(3), 1);
+        dueRow(0, 1, 0, 0);
         fresh("r", "");
         due("nobody", x.smooth(0), -1);
         due("none such", x.smooth(1), -1);
@@ -353,6 +390,12 @@ public final class EdgesOfQuestionsTest extends Asking {
         dueRow(0, 3);
         due("the second room has more", x.least(7), 10);
         dueRow(1, 0);
+        fresh("rr", "0v1>50;0v1>50");
+        due("the first room has most", x.least(3), 10);
+        dueRow(0, 0);
+        fresh("rrrrrr", "0v1>111119;0v1>111119;0v1>511111");
+        due("the last room has most", x.least(7), 19);
+        dueRow(5, 0);
         fresh("cc", "0v1>11");
         due("no room", x.least(0), 0);
         dueRow(-1, 0);
@@ -458,6 +501,13 @@ public final class EdgesOfQuestionsTest extends Asking {
             due("slack with " + left[k], x.slack(0), want[k]);
             due("nobody is behind it", x.slack(1), 30);
         }
+        // the lesser number is behind the greater
+        fresh("rr", "0v1>91;0v1>14");
+        x.off(1);
+        x.minute();
+        x.off(0);
+        due("slack", x.slack(1), 5);
+        follow(99);
         for (int g : new int[] {LOW, -1, 2, 3, HIGH}) due("none such, or outside", x.slack(g), -1);
         x.minutes(1);
         due("through", x.slack(0), -1);
@@ -481,6 +531,16 @@ public final class EdgesOfQuestionsTest extends Asking {
         x.off(0);
         x.off(1);
         due("the other is later by 1, never by 2", x.slack(0), 0);
+        // with one MINUTE less LEFT they would go by each other
+        fresh("rrcr", "0v1>3111;0v1<1111");
+        x.off(0);
+        x.off(1);
+        due("stuck as it is", x.slack(0), -2);
+        due("stuck as it is", x.slack(1), -2);
+        fresh("rrcr", "0v1>2111;0v1<1111");
+        x.off(0);
+        x.off(1);
+        due("just not stuck", x.slack(0), 0);
         // sooner is not later: by 3 and more the other goes first
         fresh("crc", "0v1>511;0v1<133");
         x.off(0);
@@ -622,6 +682,12 @@ public final class EdgesOfQuestionsTest extends Asking {
         fresh("ccc", "0v1>155");
         due("of two as soon ones the first", x.brief(1), 6);
         dueRow(0, 1);
+        fresh("cc", "0v1>11");
+        due("by one MINUTE", x.brief(1), 1);
+        dueRow(0, 1);
+        fresh("cc", "0v1>10");
+        due("by none", x.brief(1), 1);
+        dueRow(-1, -1);
         fresh("r", "0v1>5;0v1>5");
         due("of two as soon ones the first GROUP", x.brief(3), 6);
         dueRow(0, 0);
@@ -770,6 +836,47 @@ public final class EdgesOfQuestionsTest extends Asking {
         due("the twelfth is not so", x.fits(1), 0);
     }
 
+    private static void fitsAsked() {
+        // c is heard ahead of b's coming: it must be ahead of b, wherever a and d are
+        fresh("c", "0v1>9;5w1>9;0x1>9;0z1>9");
+        x.heard(0, 2, 2);
+        due("half of all", x.fits(15), 12);
+        dueRow(0, 2, 1, 3);
+        due("of three", x.fits(7), 3);
+        dueRow(0, 2, 1);
+        due("began", x.began(15), 13);
+        dueRow(11);
+        // MINUTES count from when it is asked for, those in which nobody steps on as well
+        fresh("r", "0v1>9");
+        x.minutes(40);
+        for (int n = 1; n <= 12; n++) {
+            dueHeard(0, n, 0, n < 9 ? 1 : 0);
+            dueHeard(0, n, 1, 0);
+            dueHeard(0, n, -1, n < 9 ? 0 : 1);
+        }
+        // two of them: the first so, the second not, and the other way round
+        x.forget();
+        x.heard(0, 3, 0);
+        x.heard(0, 2, 1);
+        due("the second is not so", x.fits(1), 0);
+        x.forget();
+        x.heard(0, 2, 1);
+        x.heard(0, 3, 0);
+        due("the first is not so", x.fits(1), 0);
+        // it is asked with others in ROOMS
+        fresh("rr", "0v1>39;0w1>11");
+        x.off(0);
+        x.minutes(1);
+        x.heard(0, 1, 0);
+        x.heard(1, 2, 0);
+        x.heard(0, 3, 1);
+        due("b sets off when a has stepped on", x.fits(2), 1);
+        x.heard(0, 10, 1);
+        due("and waits", x.fits(2), 1);
+        x.heard(0, 11, 1);
+        due("not as long", x.fits(2), 0);
+    }
+
     private static void began() {
         promise = 38;
         fresh("rr", "0v1>11;0w1>11;0x1>11");
@@ -799,6 +906,18 @@ public final class EdgesOfQuestionsTest extends Asking {
             due("n " + n, x.season(3, 1, n), n);
             dueRow(3, 3, 0);
         }
+        // asked for as the first thing in a state that is another one
+        x.stand(9);
+        due("from then", x.season(3, 1, 20), 20);
+        dueRow(3, 3, 0);
+        fresh("rr", "0v1>11;0v1<11;9v1>11");
+        due("both fit", x.fits(3), 2);
+        due("but are stuck", x.season(3, 1, 20), 0);
+        dueRow(-1, -1, -1);
+        x.minutes(9);
+        due("the third has come", x.season(4, 1, 1), 1);
+        dueRow(2, 2, 0);
+        fresh("r", "0v1>1;0v1>2");
         for (int seed : new int[] {LOW, -1, 0, HIGH}) due("any seed", x.season(3, seed, 20), 20);
         for (int those : new int[] {0, 4, 7, -1, LOW, HIGH}) due("those " + those, x.season(those, 1, 1), -1);
     }
@@ -903,7 +1022,10 @@ public final class EdgesOfQuestionsTest extends Asking {
         due("a refused palace()", x.again(0), true);
         duePalace("rr", 2);
         due("the palace is anew", x.again(0), false);
-        dueGroups("0v1>13;0v1>11;0v1>11", 3);
+        due("the palace is anew", x.again(1), false);
+        dueGroups("0v1>13;0v1>11", 2);
+        due("as many, but others", x.again(1), false);
+        dueGroups("0v1>11", 1);
         due("as many, but others", x.again(0), false);
         due("as many, but others", x.again(1), false);
         // THROUGH and when are brought back as well

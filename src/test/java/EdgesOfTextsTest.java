@@ -17,6 +17,8 @@ public final class EdgesOfTextsTest extends Asking {
         nothingComes();
         emptyGroups();
         ruleSigns();
+        ruleBehindDigits();
+        ruleStays();
         ruleEnds();
         ruleOf40();
         ruleNumbers();
@@ -164,6 +166,34 @@ public final class EdgesOfTextsTest extends Asking {
     }
 
     private static void palaceAnew() {
+        // ROOMS that were taken are free, LEFT and WAITED are 0, nothing kept counts for as many new GROUPS
+        fresh("rr", "0v1>99;0v1>11");
+        x.off(0);
+        x.minutes(9);
+        x.off(1);
+        x.minutes(3);
+        x.keep(0);
+        x.keep(1);
+        duePalace("rr", 2);
+        dueGroups("0v1>99;0v1>11", 2);
+        due("nothing is kept", x.again(0), false);
+        due("nothing is kept", x.again(1), false);
+        for (int g = 0; g < 2; g++) {
+            due("left", group(g, 5), 0);
+            due("waited", group(g, 6), 0);
+        }
+        due("waited", x.count(6), 0);
+        due("the first ROOM is free", x.off(1), 1);
+        x.minute();
+        due("so is the second", group(1, 4), 1);
+        // without GROUPS as well
+        fresh("r", "");
+        x.keep(0);
+        x.keep(1);
+        x.stand(1);
+        duePalace("r", 1);
+        due("nothing is kept", x.again(0), false);
+        due("nothing is kept", x.again(1), false);
         fresh("rc", "0v1>11;0w1>22");
         x.leave(0, 3);
         x.heard(0, 1, 0);
@@ -374,6 +404,41 @@ public final class EdgesOfTextsTest extends Asking {
         due("none: s", x.stay(0, 2), 3);
     }
 
+    private static void ruleBehindDigits() {
+        fresh("r", "0v7>1");
+        for (char sign = 0; sign < 256; sign++) {
+            boolean digit = sign >= '0' && sign <= '9';
+            boolean joins = "<>=+-*/".indexOf(sign) >= 0;
+            dueRule("1" + sign, digit ? 0 : joins ? -3 : -2);
+            dueRule("12" + sign, digit ? 0 : joins ? -4 : -3);
+            dueRule("123" + sign, joins ? -5 : -4);
+        }
+    }
+
+    /** A rule stays, whatever texts come behind it, till another one is told. */
+    private static void ruleStays() {
+        fresh("rcr", "0v7>123");
+        dueRule("z-3", 0);
+        dueRule("z+q", -3);
+        dueRule("99+", -4);
+        x.leave(0, 1);
+        x.leave(0, 0);
+        due("it is as it was ahead of the refused ones", x.stay(0, 0), 4);
+        dueGroups("0v9>000", 1);
+        due("for one that comes", x.stay(1, 0), 6);
+        dueDay("m9;m9;m9;m9;m9", 5);
+        x.sheet(0, 2, 2, 9, 0);
+        due("whatever is told", x.stay(1, 0), 6);
+        duePalace("cc", 2);
+        due("rule and ROW stay", x.count(9), 2);
+        dueGroups("0v11>99", 1);
+        due("in a palace that is anew", x.stay(0, 1), 8);
+        dueRule("", 0);
+        due("none: s", x.stay(0, 1), 9);
+        dueRule("s-1", 0);
+        due("another", x.stay(0, 1), 8);
+    }
+
     private static void ruleEnds() {
         String whole = "-(s+12*(z-3))/-r=(i<--c)";
         boolean[] fine = new boolean[whole.length() + 1];
@@ -469,6 +534,9 @@ public final class EdgesOfTextsTest extends Asking {
         dueStay("4<2+3", 1);
         dueStay("2*3=3+3", 1);
         dueStay("9*(2<1)", 0);
+        dueStay("5+(2<1)", 5);
+        dueStay("5+(2>1)", 6);
+        dueStay("5+(2=1)", 5);
         dueStay("9*(1<2)", 9);
     }
 

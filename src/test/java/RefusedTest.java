@@ -22,6 +22,7 @@ public final class RefusedTest extends Asking {
         stuckCalls();
         fullCalls();
         questions();
+        oneBehindAnother();
         finish("what is refused changes nothing");
     }
 
@@ -64,6 +65,7 @@ public final class RefusedTest extends Asking {
         y.off(0);
         y.off(1);
         y.minutes(5);
+        y.least(15);
         type(y, "p3");
         return y;
     }
@@ -448,6 +450,41 @@ public final class RefusedTest extends Asking {
         x = world.get();
         due(call, asking.applyAsInt(x), want);
         alike(call, x, world.get(), false);
+    }
+
+    /** No question's answer or ROW hangs on what was asked ahead of it. */
+    private static void oneBehindAnother() {
+        promise = 2;
+        List<ToIntFunction<NoTwoInOneRoom>> all = List.of(
+            y -> y.where(1, 3), y -> y.stuck(), y -> y.best(12), y -> y.calm(12), y -> y.calm(4), y -> y.many(12, 82),
+            y -> y.gap(1, 4), y -> y.smooth(19), y -> y.every(1), y -> y.least(31), y -> y.late(4, 9), y -> y.slack(1),
+            y -> y.dies(0, 4, 9), y -> y.loss(0, 4), y -> y.pairs(), y -> y.brief(12), y -> y.brief(4), y -> y.fits(12),
+            y -> y.fits(8), y -> y.began(12), y -> y.season(12, 7, 5), y -> ordered(y, "c"), y -> ordered(y, "dc"), y -> y.best(32));
+        for (Supplier<NoTwoInOneRoom> world : List.<Supplier<NoTwoInOneRoom>>of(RefusedTest::rich, RefusedTest::stuck)) {
+            for (int first = 0; first < all.size(); first++) {
+                for (int second = 0; second < all.size(); second++) {
+                    NoTwoInOneRoom twin = world.get();
+                    x = world.get();
+                    all.get(first).applyAsInt(x);
+                    // the ROW of one that is refused is that of the call ahead of it
+                    x.least(1);
+                    twin.least(1);
+                    due(second + " behind " + first, all.get(second).applyAsInt(x), all.get(second).applyAsInt(twin));
+                    due("row of " + second + " behind " + first, told(x).equals(told(twin)), true);
+                }
+            }
+        }
+    }
+
+    private static int ordered(NoTwoInOneRoom y, String order) {
+        type(y, order);
+        return y.order();
+    }
+
+    private static List<Integer> told(NoTwoInOneRoom y) {
+        List<Integer> row = new ArrayList<>();
+        for (int i = 0; i < y.count(9); i++) row.add(y.row(i));
+        return row;
     }
 
     private static void questions() {
