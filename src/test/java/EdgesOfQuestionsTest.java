@@ -259,6 +259,11 @@ public final class EdgesOfQuestionsTest extends Asking {
         fresh("cc", "0v1>99;0v1>11");
         dueGap(0, 1, 0, -1);
         dueGap(1, 0, 0, -1);
+        for (int n = 1; n <= 6; n++) {
+            fresh(times("c", n), "0v1>" + times("9", n) + ";0v1<" + times("9", n) + ";0v1>" + times("1", n) + ";0v1<" + times("1", n));
+            dueGap(0, 2, 0, -1);
+            dueGap(3, 1, 0, -1);
+        }
         fresh("rc", "0v1>09;0v1>11");
         dueGap(0, 1, 0, 0);
         dueGap(1, 0, 1, 0);

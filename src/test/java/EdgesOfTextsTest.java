@@ -419,11 +419,13 @@ public final class EdgesOfTextsTest extends Asking {
     private static void ruleStays() {
         fresh("rcr", "0v7>123");
         dueRule("z-3", 0);
-        dueRule("z+q", -3);
-        dueRule("99+", -4);
-        x.leave(0, 1);
-        x.leave(0, 0);
-        due("it is as it was ahead of the refused ones", x.stay(0, 0), 4);
+        for (String refused : new String[] {"q", "z+q", "99+", "9+9+9+9+"}) {
+            text(refused);
+            due("rule " + refused, x.rule() < 0, true);
+            x.leave(0, 1);
+            x.leave(0, 0);
+            due("it is as it was ahead of the refused one", x.stay(0, 0), 4);
+        }
         dueGroups("0v9>000", 1);
         due("for one that comes", x.stay(1, 0), 6);
         dueDay("m9;m9;m9;m9;m9", 5);
