@@ -6,23 +6,14 @@ import java.lang.reflect.Modifier;
 import java.nio.file.Files;
 import java.nio.file.Path;
 import java.util.ArrayList;
-import java.util.Arrays;
 import java.util.List;
 import java.util.TreeSet;
+import java.util.regex.Matcher;
+import java.util.regex.Pattern;
 
 /** The face is the document's and no more; rules of LANGUAGE.md that can be seen from outside or from the signs of the file. */
 public final class FaceTest {
-    private static final String[] FACE = {
-        "int sign(int)", "boolean end(int)", "int palace()", "int groups()", "int rule()",
-        "int group(int,int) throws NoSuchElementException", "int room(int,int) throws NoSuchElementException",
-        "int stay(int,int)", "int leave(int,int)", "int sheet(int,int,int,int,int)", "int off(int)", "int over(int,int)",
-        "int stand(int)", "int minute()", "int minutes(int)", "int day()", "int undo()", "int where(int,int)", "int stuck()",
-        "int order()", "int best(int)", "int calm(int)", "int many(int,int)", "int gap(int,int)", "int smooth(int)",
-        "int every(int)", "int least(int)", "int late(int,int)", "int slack(int)", "int dies(int,int,int)",
-        "int loss(int,int)", "int pairs()", "int brief(int)", "int heard(int,int,int)", "int forget()", "int fits(int)",
-        "int began(int)", "int season(int,int,int)", "boolean keep(int)", "boolean again(int)", "int count(int)",
-        "int row(int) throws NoSuchElementException"
-    };
+    private static final List<String> FACE = new ArrayList<>();
     private static final String[] BANNED = {
         "->", "::", "catch", "finally", "assert ", "synchronized", "Exact(", "import java.util.*", "package ", "System.out",
         "currentTime", "nanoTime", "Random", "Thread", "hashCode", "toString", "static {"
@@ -30,6 +21,7 @@ public final class FaceTest {
     private static int wrong = 0;
 
     public static void main(String[] args) throws IOException {
+        readFace();
         face();
         classes();
         source();
@@ -40,6 +32,18 @@ public final class FaceTest {
     private static void fault(String why) {
         wrong++;
         System.out.println(why);
+    }
+
+    /** The methods that the document's public face tells, without the names of what they take. */
+    private static void readFace() throws IOException {
+        String document = Files.readString(Path.of("../shared/DOC.md"));
+        Matcher face = Pattern.compile("## The public face\\s+```java\n(.*?)```", Pattern.DOTALL).matcher(document);
+        if (!face.find()) fault("the document has no face");
+        else for (String line : face.group(1).split("\n")) {
+            Matcher m = Pattern.compile(" *public (int|boolean) (\\w+)\\((.*?)\\)(.*);").matcher(line);
+            if (m.matches()) FACE.add(m.group(1) + " " + m.group(2) + "(" + m.group(3).replaceAll(" \\w+(,|$)", "$1").replace(" ", "") + ")" + m.group(4));
+        }
+        if (FACE.size() != 42) fault("the document's face has " + FACE.size() + " methods");
     }
 
     private static String told(Method m) {
@@ -53,7 +57,7 @@ public final class FaceTest {
     private static void face() {
         Class<?> c = NoTwoInOneRoom.class;
         if (!Modifier.isFinal(c.getModifiers()) || !Modifier.isPublic(c.getModifiers())) fault("the class is not public and final");
-        TreeSet<String> face = new TreeSet<>(Arrays.asList(FACE));
+        TreeSet<String> face = new TreeSet<>(FACE);
         TreeSet<String> found = new TreeSet<>();
         for (Method m : c.getDeclaredMethods()) {
             if (Modifier.isPrivate(m.getModifiers()) || m.isSynthetic()) continue;
@@ -64,6 +68,7 @@ public final class FaceTest {
         for (Constructor<?> k : c.getDeclaredConstructors()) {
             if (!Modifier.isPublic(k.getModifiers()) || k.getParameterCount() != 0) fault("constructor " + k);
         }
+        if (NoTwoInOneRoom.NONE != -1) fault("NONE is " + NoTwoInOneRoom.NONE);
         for (Field f : c.getDeclaredFields()) {
             if (f.getName().equals("NONE") != !Modifier.isPrivate(f.getModifiers())) fault("field " + f);
         }
@@ -99,9 +104,13 @@ public final class FaceTest {
         for (String b : BANNED) if (s.contains(b)) fault("the file has " + b);
         for (int p = 0; p < s.length(); p++) if (s.charAt(p) > 126) fault("sign " + (int) s.charAt(p) + " at " + p);
         int length = 0;
+        boolean constructor = false;
         for (String line : s.split("\n")) {
             boolean method = line.matches(" {4}( {4})?(public|private|static|int|boolean|void|[A-Z]\\w*).*\\{") && line.contains("(");
             length = method ? 1 : length + 1;
+            if (method) constructor = line.matches(" {4}(public |    )[A-Z]\\w*\\(.*");
+            // rows are made once, so that calls make no objects but what they throw
+            if (line.matches(".*\\bnew \\w.*") && !line.contains("throw new NoSuchElementException()") && !constructor) fault("made in a call: " + line);
             if (line.matches(" {4}( {4})?}") && length > 60) fault("a method of " + length + " lines ends at: " + line);
             if (line.matches(" {4}( {4})?}")) length = 0;
         }

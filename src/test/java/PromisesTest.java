@@ -314,6 +314,9 @@ public final class PromisesTest extends Asking {
         due("stays", room(1, 2), 18);
         x.leave(1, 2);
         due("stays", room(1, 2), 9);
+        x.minutes(90);
+        due("all are through", x.count(5), 7);
+        due("of those that are through as well", room(1, 2), 9);
         due("no such room", room(2, 0), THROWS);
         due("no such room", room(-1, 0), THROWS);
         due("no such what", room(0, 3), THROWS);
@@ -395,6 +398,13 @@ public final class PromisesTest extends Asking {
         due("again", x.sheet(0, 2, 3, 1, 1), 6);
         due("missing", x.sheet(0, 3, -1, 1, 1), -3);
         due("all are 0", room(0, 2), 0);
+        // a ROOM that is left out stays so
+        x.leave(1, 1);
+        due("again", x.sheet(0, 2, 3, 1, 1), 6);
+        due("left out", x.stay(1, 0), 0);
+        due("left out", group(1, 8), 1);
+        x.leave(1, 0);
+        due("as the sheet told", x.stay(1, 0), 2);
         fresh("r", "");
         due("no groups", x.sheet(0, 2, 3, 1, 1), 0);
     }
@@ -715,6 +725,14 @@ public final class PromisesTest extends Asking {
         x.minute();
         x.off(2);
         due("one that is through, and none other", x.stuck(), 0);
+        fresh("r", "0v1>1;0v1>1");
+        x.off(0);
+        x.minutes(4);
+        due("nobody is in a room", x.stuck(), 0);
+        dueRow(0);
+        x.off(1);
+        due("one is", x.stuck(), 0);
+        dueRow(1);
     }
 
     private static void order() {
@@ -740,6 +758,12 @@ public final class PromisesTest extends Asking {
         x.minutes(3);
         dueOrder("b", 6, 6, 1);
         dueOrder("c", 6, 6, 0);
+        // b waits for 8 MINUTES, but is not of the ORDER
+        fresh("rr", "0v1>19;0v1>11;0v1>11");
+        x.off(0);
+        x.minute();
+        x.off(1);
+        dueOrder("c", 11, 11, 0);
         // one set off ahead of another in the same MINUTE; a corridor lets it by
         fresh("cc", "0v1>99;0v1>11");
         dueOrder("ab", 18, 18, 2, 0);
@@ -772,6 +796,11 @@ public final class PromisesTest extends Asking {
         fresh("rr", "0v1>11;0v1>11;0v1>11");
         due("alike", x.best(7), 4);
         dueRow(0, 1, 2);
+        // behind bc the one in the corridor waits for 1 MINUTE, behind cb it does not; b and c never do
+        fresh("rc", "0v1<11;0v1>21;0v1>11");
+        x.off(0);
+        due("waited by those alone", x.best(6), 5);
+        dueRow(1, 2);
     }
 
     private static void calm() {
@@ -966,6 +995,12 @@ public final class PromisesTest extends Asking {
         dueRow(2, 3);
         due("30", x.late(1, 30), 29);
         dueRow(2, 30);
+        // a is ahead as it is; then b, and the long STAYS of both are side by side
+        fresh("crr", "0v1>141;0v1>114");
+        x.off(0);
+        x.off(1);
+        due("the last one is sooner", x.late(0, 1), -3);
+        dueRow(1, 1);
     }
 
     private static void slack() {
@@ -1310,6 +1345,9 @@ public final class PromisesTest extends Asking {
         x.off(1);
         x.minutes(5);
         due("waited", x.count(6), 5);
+        x.minutes(90);
+        due("all are through", x.count(5), 3);
+        due("waited by those that are through as well", x.count(6), 8);
     }
 
     private static void row() {

@@ -65,6 +65,7 @@ public final class RefusedTest extends Asking {
         y.off(0);
         y.off(1);
         y.minutes(5);
+        y.heard(1, 2, 1);
         y.least(15);
         type(y, "p3");
         return y;
@@ -87,7 +88,7 @@ public final class RefusedTest extends Asking {
 
     private static List<Integer> look(NoTwoInOneRoom y, boolean rowToo) {
         List<Integer> seen = new ArrayList<>();
-        for (int what = -1; what < 12; what++) if (what != 9 || rowToo) seen.add(y.count(what));
+        for (int what = 0; what <= 10; what++) if (what != 9 || rowToo) seen.add(y.count(what));
         for (int i = 0; rowToo && i < y.count(9); i++) seen.add(y.row(i));
         for (int g = 0; g < y.count(1); g++) {
             for (int what = 0; what < 9; what++) seen.add(y.group(g, what));
