@@ -1823,7 +1823,12 @@ public final class NoTwoInOneRoom {
         }
 
         private boolean sendOff(State s, int group, int last) {
+            int whole = house.wholeStay(group);
             for (int turn = 0; turn <= LONGEST_DAY && s.now < last; turn++) {
+                // it is not THROUGH sooner than its STAYS take, so that many an ORDER need not be followed further
+                if (!listening && s.now + whole > last) {
+                    return false;
+                }
                 if (house.barTo(s, group) == 0) {
                     house.setOff(s, group);
                     return true;
