@@ -27,6 +27,7 @@ public final class EdgesOfQuestionsTest extends Asking {
         pairs();
         brief();
         briefNone();
+        briefOf400();
         heard();
         heardMinutes();
         heardIn300();
@@ -721,6 +722,26 @@ public final class EdgesOfQuestionsTest extends Asking {
         due("best is none", x.best(5), -2);
         due("brief is", x.brief(5), 7);
         dueRow(0, 0);
+    }
+
+    /** Five from the front, 30 MINUTES in each of five rooms, keep the last one taken till all are THROUGH, 270 behind the first setting off; then one from behind. */
+    private static void fiveAndOne(int comes) {
+        fresh("rrrrr", times(comes + "v1>11111;", 5) + comes + "v1<11111");
+        dueRule("30", 0);
+        due("420 from when they come", x.best(63), -2);
+    }
+
+    private static void briefOf400() {
+        // the last one from the front leaves out the last room: 30 sooner; a first room left out takes 1 MINUTE still
+        fiveAndOne(9);
+        due("a MINUTE less", x.brief(63), 399);
+        dueRow(0, 4);
+        fiveAndOne(10);
+        due("just in 400", x.brief(63), 400);
+        dueRow(0, 4);
+        fiveAndOne(11);
+        due("not in 400", x.brief(63), -2);
+        due("the row stays", x.count(9), 0);
     }
 
     // ---- 35 to 38
